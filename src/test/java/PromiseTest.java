@@ -183,6 +183,7 @@ public final class PromiseTest {
         dueCuts("the deepest", withDepths(0, 0, 99, 0, 0), 99, 99, 100);
         dueCuts("all alike", withDepths(50, 50, 50, 50, 50), 0, 0, 0);
         dueCuts("least at the end", withDepths(11, 12, 13, 14, 10), 4, 4, 4);
+        dueCuts("least next to the first", withDepths(11, 10, 13, 14, 12), 4, 4, 4);
         WheelShop x = withDepths(1, 2, 3, 4, 5);
         due("7: cut(-1, 3)", x.cut(-1, 3), BAD);
         due("7: cut(3, 3)", x.cut(3, 3), BAD);
@@ -341,6 +342,12 @@ public final class PromiseTest {
         due("12: the train", x.kept(0), 6007);
         x.size(3, 6003);
         due("12: a wheel's own size", x.kept(3), 6003);
+        x = new WheelShop();
+        x.law(1, 100);
+        x.law(2, 5);
+        x.size(2, 8000);
+        due("12: one on the way", x.kept(4), 8005);
+        due("12: an earlier one by way of it", x.kept(0), 8010);
         for (int wheel : NO_WHEEL) {
             due("12: kept of no wheel", x.kept(wheel), BAD);
         }
@@ -356,6 +363,9 @@ public final class PromiseTest {
         x.law(3, 0);
         due("13: all to the least", x.steel(), 980 + 14 * 1000);
         due("13: asked, not done", x.about(0, 0), 8980);
+        x = new WheelShop();
+        x.size(1, 8980);
+        due("13: the first wheel's loss", x.steel(), 10);
     }
 
     private static void promise14Even() {
@@ -427,6 +437,7 @@ public final class PromiseTest {
         duePairs("as many as can be, though nearer ones were there", withSpares(7010, 7001, 7000, 7002), 2, 9);
         duePairs("not only the nearest", withSpares(7000, 7009, 7010, 7019), 2, 18);
         duePairs("one left over in the middle", withSpares(7030, 7000, 7010, 7020, 7002), 2, 12);
+        duePairs("the nearer two of three", withSpares(7000, 7010, 7009), 1, 1);
         duePairs("all alike", withSpares(8000, 8000, 8000, 8000, 8000, 8000, 8000, 8000), 4, 0);
         duePairs("eight in no order", withSpares(9000, 6000, 6009, 8991, 7003, 7000, 6500, 6510), 4, 31);
         duePairs("seven, the best one left out", withSpares(7006, 7000, 7003, 7012, 7008, 7009, 7020), 3, 8);
@@ -569,6 +580,17 @@ public final class PromiseTest {
         x.read(6, 1, 7100);
         x.read(6, 1, 7112);
         dueOffsets("one size for all readings", x, NO, NO, 0, 1);
+        // The readings told first count as the later ones do, and what is forgotten no more.
+        x = new WheelShop();
+        x.read(0, 1, 8050);
+        x.read(1, 1, 8040);
+        x.read(1, 0, 8000);
+        x.read(0, 0, 8000);
+        dueOffsets("two wheels that overlap", x, 43, 47, 5, 0);
+        x.forget();
+        dueOffsets("the first wheel's hand forgotten", x, 33, 47, 15, 0);
+        x.forget();
+        dueOffsets("both hands forgotten", x, -200, 200, 401, 0);
     }
 
     private static void promise21Pass() {
