@@ -181,6 +181,7 @@ public final class PromiseTest {
         dueCuts("less than the thinning", withDepths(9, 9, 9, 9, 4), 5, 0, 0);
         dueCuts("one more than the thinning", withDepths(7, 0, 1, 2, 3), 7, 1, 2);
         dueCuts("the deepest", withDepths(0, 0, 99, 0, 0), 99, 99, 100);
+        dueCuts("greatest next to the first", withDepths(1, 10, 3, 2, 4), 9, 9, 10);
         dueCuts("all alike", withDepths(50, 50, 50, 50, 50), 0, 0, 0);
         dueCuts("least at the end", withDepths(11, 12, 13, 14, 10), 4, 4, 4);
         dueCuts("least next to the first", withDepths(11, 10, 13, 14, 12), 4, 4, 4);
@@ -385,6 +386,10 @@ public final class PromiseTest {
         due("14: no turning", x.count(5), 0);
         due("14: road stays", x.about(1, 7), 3);
         due("14: depth stays", x.about(1, 3), 5);
+        x = new WheelShop();
+        x.size(1, 8980);
+        due("14: the first wheel too", x.even(), 1);
+        due("14: its size", x.about(0, 0), 8990);
     }
 
     private static void promise15Spare() {
@@ -591,6 +596,21 @@ public final class PromiseTest {
         dueOffsets("the first wheel's hand forgotten", x, 33, 47, 15, 0);
         x.forget();
         dueOffsets("both hands forgotten", x, -200, 200, 401, 0);
+        x = new WheelShop();
+        for (int n = 0; n < 20; n++) {
+            x.read(15, 1, 9000 + n);
+        }
+        dueOffsets("twenty readings, a step apart", x, NO, NO, 0, 9);
+        while (x.count(1) > 11) {
+            x.forget();
+        }
+        dueOffsets("eleven of them", x, -200, 200, 401, 0);
+        x.forget();
+        x.read(14, 1, 9000);
+        x.read(14, 1, 9011);
+        x.forget();
+        x.read(14, 1, 9900);
+        dueOffsets("with two that contradict", x, NO, NO, 0, 1);
     }
 
     private static void promise21Pass() {
